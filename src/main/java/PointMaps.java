@@ -1195,17 +1195,29 @@ public final class PointMaps {
         }
 
         int allCuts() {
+            int choices = choices();
             int found = 0;
-            for (int choice = 0; choice < choices(); choice++) {
+            for (int choice = 0; choice < choices; choice++) {
                 int heaps = chosenHeaps(choice);
-                found += oneIf(Maps.isStill(heaps, letters.n) && joinedByLetters(heaps) == heaps);
+                found += oneIf(Maps.isStill(heaps, letters.n) && lettersKeep(heaps));
             }
             return found;
         }
 
+        private boolean lettersKeep(int heaps) {
+            for (int k = 0; k < letters.many; k++) {
+                int heapsBehind = Maps.ahead(letters.map(k), heaps, letters.n);
+                if (Maps.ahead(heaps, heapsBehind, letters.n) != heapsBehind) {
+                    return false;
+                }
+            }
+            return true;
+        }
+
         int allTwists() {
+            int choices = choices();
             int found = 0;
-            for (int choice = 0; choice < choices(); choice++) {
+            for (int choice = 0; choice < choices; choice++) {
                 found += oneIf(letters.allCommuteWith(chosenTwist(choice)));
             }
             return found;
@@ -1248,6 +1260,7 @@ public final class PointMaps {
     /** The points as states: a start, a set of ends, and what words do between them. */
     private static final class Machine {
         private static final int PRIME = 1000000007;
+        private static final int NO_HEAP = 7;
 
         private final Letters letters;
         private final Elements all;
@@ -1340,7 +1353,7 @@ public final class PointMaps {
             return found;
         }
 
-        /** Of each state the least one in its heap, or 7, if it can't be come to from the start. */
+        /** Of each state the least one in its heap, or NO_HEAP, if it can't be come to from the start. */
         private int leastMachine() {
             int states = statesFromStart();
             long parted = sets.leadingTo(unlikeEnds());
@@ -1353,7 +1366,7 @@ public final class PointMaps {
 
         private int heapOf(int state, int states, long parted) {
             if (((states >> state) & 1) == 0) {
-                return 7;
+                return NO_HEAP;
             }
             int least = 0;
             while (least < state && !isAlike(least, state, states, parted)) {

@@ -363,6 +363,12 @@ public final class PromisesTest {
     dueBoxes("a chain", ofChain(), 3, 3, 3, 3, 2, 2, 2, 1);
     dueBoxes("a round", ofRound(), 1, 1, 1, 1, 1, 1, 0, 3);
     dueBoxes("all three", ofAllThree(), 3, 5, 7, 13, 3, 10, 2, 3);
+    PointMaps x = ofAllThree();
+    x.boxes(0);
+    x.drop();
+    dueBoxes("all exchanges, which were more", x, 1, 1, 1, 1, 1, 1, 0, 6);
+    x.letter(0);
+    dueBoxes("all exchanges and constants", x, 2, 2, 4, 4, 2, 4, 1, 3);
     Check.due("boxes(-1)", BAD, ofTwo().boxes(-1));
     Check.due("boxes(8)", BAD, ofTwo().boxes(8));
     Check.due("SPENT", SPENT, tooMany().boxes(0));
@@ -447,6 +453,8 @@ public final class PromisesTest {
     for (int e = 0; e < 4; e++) {
       Check.due("ideal(" + e + ") of branches", due[e], ofBranches().ideal(e));
     }
+    Check.due("ideal(1) of a chain", 2, ofChain().ideal(1));
+    Check.due("ideal(2) of a chain", 1, ofChain().ideal(2));
     Check.due("ideal(1) of one image", 2, ofOneImage().ideal(1));
     Check.due("ideal(2) of two points", 2, ofTwo().ideal(2));
     Check.due("ideal(3) of all three", 21, ofAllThree().ideal(3));
@@ -522,6 +530,7 @@ public final class PromisesTest {
     Check.due("together(15, MIN)", BAD, x.together(15, LEAST_INT));
     Check.due("together(15, MAX)", BAD, x.together(15, GREATEST_INT));
     Check.due("of one point the empty WORD", 0, x.together(4, -1));
+    Check.due("of point 0", 0, x.together(1, -1));
     Check.due("of one point no letter", BAD, x.together(4, 0));
     Check.due("an empty SET", BAD, x.together(0, -1));
     Check.due("bits beyond", BAD, x.together(16, -1));
@@ -690,6 +699,7 @@ public final class PromisesTest {
     PointMaps two = machine(0, 1, 3, map(0, 1, 2), map(1, 1, 0), map(1, 1, 0));
     Check.due("two unlike by letter 1", 1, two.parting(1, 2, -1));
     Check.due("the first that parts", 1, two.parting(1, 2, 0));
+    Check.due("of two shortest words the first", 0, machine(0, 1, 3, map(1, 1, 0), map(1, 1, 0)).parting(1, 2, 0));
     Check.due("alike", NONE, machine(0, 6, 3, map(0, 1, 2)).parting(1, 2, -1));
     for (int wrong : new int[] {-1, 6, LEAST_INT, GREATEST_INT}) {
       Check.due("parting(" + wrong + ", 0, -1)", BAD, x.parting(wrong, 0, -1));
@@ -717,6 +727,11 @@ public final class PromisesTest {
     dueMeanings("a round that can't be come to", machine(0, 2, 3, map(0, 2, 1)), 1, 1);
     dueMeanings("a round that can be", machine(1, 2, 3, map(0, 2, 1)), 2, 0);
     dueMeanings("no letters", machine(0, 1, 3), 1, 1);
+    PointMaps changed = machine(0, 21, 6, round);
+    Check.due("meanings(0)", 2, changed.meanings(0));
+    Check.due("meanings(0) again", 2, changed.meanings(0));
+    changed.set(1, 1);
+    Check.due("meanings(0) with other ENDS", 6, changed.meanings(0));
     Check.due("meanings(2)", BAD, ofTwo().meanings(2));
     Check.due("meanings(-1)", BAD, ofTwo().meanings(-1));
     Check.due("SPENT", SPENT, tooMany().meanings(0));
