@@ -1,8 +1,3 @@
-import java.lang.reflect.Method;
-import java.util.Arrays;
-import java.util.HashMap;
-import java.util.Map;
-
 /** Many runs of calls, each answer beside that of Plain. */
 public final class AgainstPlainTest {
   private static final int RUNS = 600;
@@ -10,14 +5,11 @@ public final class AgainstPlainTest {
   private static final int[] WILD = {
     -2147483648, -1000, -10, -9, -2, -1, 7, 8, 63, 64, 1499, 1500, 1501, 46655, 46656, 2147483647};
 
-  private static final Map<String, Method> ASKED = methods(PointMaps.class);
-  private static final Map<String, Method> PLAIN = methods(Plain.class);
-
   private static long seed = 20261118;
   private static PointMaps x;
   private static Plain y;
 
-  public static void main(String[] args) throws Exception {
+  public static void main(String[] args) {
     for (int run = 0; run < RUNS; run++) {
       Check.in("run " + run);
       x = new PointMaps();
@@ -35,19 +27,10 @@ public final class AgainstPlainTest {
     Check.end();
   }
 
-  private static Map<String, Method> methods(Class<?> c) {
-    Map<String, Method> found = new HashMap<>();
-    for (Method m : c.getDeclaredMethods()) {
-      found.put(m.getName() + m.getParameterCount(), m);
-    }
-    return found;
-  }
-
-  private static void ask(String name, int... args) throws Exception {
-    Object[] told = Arrays.stream(args).boxed().toArray();
-    int due = (Integer) PLAIN.get(name + args.length).invoke(y, told);
-    int got = (Integer) ASKED.get(name + args.length).invoke(x, told);
-    Check.due(name + Arrays.toString(args), due, got);
+  private static void ask(String name, int... numbers) {
+    Call call = Call.of(name, numbers);
+    int due = call.ask(y);
+    Check.due(call.toString(), due, call.ask(x));
   }
 
   /** A plain chain of numbers, the same each time. */
@@ -84,7 +67,7 @@ public final class AgainstPlainTest {
     return number;
   }
 
-  private static void change(int most) throws Exception {
+  private static void change(int most) {
     switch (below(12)) {
       case 0: ask("points", below(9) == 0 ? some(9) : 1 + below(most)); break;
       case 1: case 2: ask("drop"); break;
@@ -94,7 +77,7 @@ public final class AgainstPlainTest {
     }
   }
 
-  private static void askOne() throws Exception {
+  private static void askOne() {
     switch (below(25)) {
       case 0: ask("elements", some(4)); break;
       case 1: case 2: ask("element", anElement(), some(8)); break;

@@ -30,7 +30,8 @@ public final class EmptyAndFullTest {
     fourLettersAreFull();
     justEnough();
     justEnoughInBoxes();
-    justEnoughByFourLetters();
+    justEnoughInManyBoxes();
+    justEnoughByOneLetterMore();
     tooMany();
     tooManyIsForgotten();
     tooManyIsNotAsked();
@@ -257,8 +258,23 @@ public final class EmptyAndFullTest {
     Check.due("ideal(1500)", BAD, x.ideal(1500));
   }
 
-  private static void justEnoughByFourLetters() {
-    Check.in("just 1500 elements by four letters");
+  private static void justEnoughInManyBoxes() {
+    Check.in("just 1500 elements by four letters, in many boxes");
+    PointMaps x = Made.of(6, 44616, 42156, 33925, 43236);
+    dueAll("elements", x::elements, 1500, 139, 1, 3);
+    dueAll("boxes", x::boxes, 232, 604, 484, 1169, 8, 139, 66, 4);
+    dueAll("box(1499)", what -> x.box(1499, what), 67, 603, 113, 1168);
+    dueAll("about(231)", what -> x.about(231, what), 1, 1, 1, 1, 0, 0, 3, 1497);
+    Check.due("about(232, 0)", BAD, x.about(232, 0));
+    Check.due("below(231, 0)", 1, x.below(231, 0));
+    Check.due("below(0, 231)", 0, x.below(0, 231));
+    Check.due("below(66, 231)", 1, x.below(66, 231));
+    Check.due("below(232, 0)", BAD, x.below(232, 0));
+    Check.due("ideal(1499)", 604, x.ideal(1499));
+  }
+
+  private static void justEnoughByOneLetterMore() {
+    Check.in("just 1500 elements, and one letter more");
     PointMaps x = Made.enough();
     x.letter(Made.nothing(6));
     Check.due("a letter that does nothing more", 1500, x.elements(0));

@@ -468,11 +468,12 @@ final class Plain {
   /** The least cut is that in which just those are in one heap that are so in all cuts that hold and join the two. */
   int cut(int a, int b) {
     if (a < 0 || b < 0 || a >= n || b >= n) return BAD;
+    List<int[]> held = heldCuts();
     List<Integer> least = new ArrayList<>();
     for (int i = 0; i < n; i++) {
       for (int j = 0; j <= i; j++) {
         boolean always = true;
-        for (int[] heaps : heldCuts()) if (heaps[a] == heaps[b]) always &= heaps[i] == heaps[j];
+        for (int[] heaps : held) if (heaps[a] == heaps[b]) always &= heaps[i] == heaps[j];
         if (always) {
           least.add(j);
           break;

@@ -175,6 +175,7 @@ public final class TermsTest {
     Check.due("RING of rounds of two and three", 6, Made.of(5, Made.map(1, 0, 3, 4, 2)).element(1, 6));
     Check.due("the greatest RING, if all are 1", 1, chain(6).elements(3));
     Check.due("the greatest RING, six", 6, Made.of(5, Made.map(1, 0, 3, 4, 2)).elements(3));
+    Check.due("the greatest RING, the last element's alone", 2, Made.of(2, 0, 3, Made.map(1, 0)).elements(3));
   }
 
   private static void centre() {
@@ -252,7 +253,8 @@ public final class TermsTest {
     Check.due("has one", 1, Made.ofBranches().boxes(7));
     Check.due("is not the last one", 9, Made.enough().boxes(6));
     Check.due("is not the last one, its elements", 6, Made.enough().boxes(7));
-    Check.due("has the letter alone, the second", 1, Made.of(3, 0, Made.map(0, 0, 2)).boxes(6));
+    Check.due("is the last one of a chain", 2, Made.ofChain().boxes(6));
+    Check.due("is the first letter's, not the last one", 1, Made.of(3, 0, Made.map(0, 0, 2)).boxes(6));
   }
 
   private static void sorts() {
@@ -267,6 +269,8 @@ public final class TermsTest {
     Check.due("4: but for one box", 0, Made.ofChain().sort(4));
     Check.due("4: so", 1, Made.ofAllThree().sort(4));
     Check.due("5: but for two still ones", 0, Made.ofConstants().sort(5));
+    Check.due("5: but for the last point", 0, Made.ofOneImage().sort(5));
+    Check.due("5: but for the first point", 0, Made.of(3, Made.map(1, 1, 2), Made.map(2, 1, 2)).sort(5));
     Check.due("5: so", 1, Made.ofBranches().sort(5));
     Check.due("6: but for one element", 0, Made.of(2, 0).sort(6));
     Check.due("6: so", 1, Made.of(6, Made.turned(1, 6)).sort(6));
@@ -281,7 +285,8 @@ public final class TermsTest {
     Check.due("none, the least", NONE, x.solve(2, 3, 0, 1));
     Check.due("one", 1, x.solve(0, 3, 1, 0));
     Check.due("the last one is the least", 3, x.solve(0, 3, 1, 1));
-    Check.due("all", 4, x.solve(2, 2, 0, 0));
+    Check.due("all, x a = b", 4, x.solve(2, 2, 0, 0));
+    Check.due("not all, a x = b", 2, x.solve(2, 2, 1, 0));
     Check.due("element 0 is the least", 0, x.solve(2, 2, 0, 1));
   }
 
@@ -319,7 +324,8 @@ public final class TermsTest {
     Check.in("APART, from no pair to all");
     for (int n = 1; n <= 6; n++) {
       Check.due("all pairs, n " + n, n * (n - 1) / 2, Made.of(n, Made.turned(1, n)).apart());
-      Check.due("no pair, n " + n, 0, Made.of(n, 0).apart());
+      Check.due("no pair, all come to the first, n " + n, 0, Made.of(n, 0).apart());
+      Check.due("no pair, all come to the last, n " + n, 0, Made.of(n, Made.allTo(n - 1, n)).apart());
     }
     Check.due("all but one", 14, Made.of(6, Made.map(0, 1, 2, 3, 4, 4)).apart());
     Check.due("a long way together", 0,
